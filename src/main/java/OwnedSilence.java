@@ -25,6 +25,8 @@ public final class OwnedSilence {
     private static final int KNOTS = 64;
     private static final int LOUDEST = 20;
     private static final int TAPE = 700;
+    /** A way has a link less than places, each of length 9 with a wall of 9. */
+    private static final int FARTHEST = 5 * 18;
 
     // The columns of each kind of row.
     private static final int NAME = 0;
@@ -69,6 +71,8 @@ public final class OwnedSilence {
     private final Notes notes = new Notes();
     private final Rows log = new Rows(5, 20);
     private final int[] barkedAt = new int[1 << PLACES];
+    /** Of each way's length whether the noise is heard so far: see trialReaches. */
+    private final int[] heardFrom = new int[FARTHEST + 1];
 
     public OwnedSilence() {
     }
@@ -343,6 +347,9 @@ public final class OwnedSilence {
             return 0;
         }
         trial.copyFrom(now);
+        for (int way = 0; way <= FARTHEST; way++) {
+            heardFrom[way] = NONE;
+        }
         int best = MISSING;
         int fewest = LINKS + 1;
         for (int bits = 0; bits < 1 << now.links.size; bits++) {
@@ -368,11 +375,21 @@ public final class OwnedSilence {
         return true;
     }
 
+    /** Whether the noise is heard on the trial; of each way's length, which is all that matters, asked once. */
     private boolean trialReaches(int noise, int place) {
         trialAir.measureWays(trial, NONE);
         Rows noises = trial.noises;
-        return trialAir.minutesHeard(trial, noises.at(noise, SITE), noises.at(noise, FROM), noises.at(noise, TO),
-                noises.at(noise, LOUD), place) != 0;
+        int site = noises.at(noise, SITE);
+        int way = trialAir.way(site, place);
+        if (way < 0 || way > FARTHEST) {
+            return false;
+        }
+        if (heardFrom[way] == NONE) {
+            long bits = trialAir.minutesHeard(trial, site, noises.at(noise, FROM), noises.at(noise, TO),
+                    noises.at(noise, LOUD), place);
+            heardFrom[way] = bits == 0 ? 0 : 1;
+        }
+        return heardFrom[way] == 1;
     }
 
     public int bark(int dogs, int what) {
@@ -1651,10 +1668,15 @@ public final class OwnedSilence {
                     ways[other * PLACES + one] = length;
                 }
             }
-            for (int over = 0; over < PLACES; over++) {
-                for (int pair = 0; pair < ways.length; pair++) {
-                    int sum = ways[pair / PLACES * PLACES + over] + ways[over * PLACES + pair % PLACES];
-                    ways[pair] = Math.min(ways[pair], sum);
+            int many = Math.min(world.places.size, PLACES);
+            for (int over = 0; over < many; over++) {
+                for (int one = 0; one < many; one++) {
+                    for (int other = 0; other < many; other++) {
+                        int sum = ways[one * PLACES + over] + ways[over * PLACES + other];
+                        if (sum < ways[one * PLACES + other]) {
+                            ways[one * PLACES + other] = sum;
+                        }
+                    }
                 }
             }
         }

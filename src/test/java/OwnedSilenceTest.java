@@ -223,6 +223,10 @@ public final class OwnedSilenceTest {
         T.fault("law fade 1+;", 1, 11);
         T.fault("law fade +1;", 1, 9);
         T.fault("law fade 1<2<3;", 1, 12);
+        for (String sign : new String[] {"<", "<=", "=", "<>", ">=", ">"}) {
+            T.fault("law fade 1" + sign + "2;", 0, -1);
+            T.fault("law fade 1+1" + sign + "2*2" + sign + "3;", 1, 15 + sign.length());
+        }
         T.fault("law fade (1<2)<3;", 0, -1);
         T.fault("law fade 1< 2 and 2>=1 or not not 3<>4;", 0, -1);
         T.fault("law fade 1< =2;", 1, 12);
@@ -358,6 +362,18 @@ public final class OwnedSilenceTest {
         T.due("11 alike", fade("(1<1)+2*(1<=1)+4*(1=1)+8*(1<>1)+16*(1>=1)+32*(1>1)", 0, 0, 0), 2 + 4 + 16);
         T.due("11 less", fade("(1<2)+2*(1<=2)+4*(1=2)+8*(1<>2)+16*(1>=2)+32*(1>2)", 0, 0, 0), 1 + 2 + 8);
         T.due("11 more", fade("(2<1)+2*(2<=1)+4*(2=1)+8*(2<>1)+16*(2>=1)+32*(2>1)", 0, 0, 0), 8 + 16 + 32);
+        T.due("11 or", fade("(0 or 0)+2*(0 or 1)+4*(2 or 0)+8*(0 or 0)", 0, 0, 0), 2 + 4);
+        T.due("11 and", fade("(0 and 0)+2*(0 and 1)+4*(1 and 0)+8*(3 and 1)", 0, 0, 0), 8);
+        T.due("11 not", fade("(not 0)+2*(not 1)+4*(not not 0)", 0, 0, 0), 1);
+        T.due("11 not before and", fade("not 0 and 0", 0, 0, 0), 0);
+        T.due("11 and not", fade("1 and not 1 or 1", 0, 0, 0), 1);
+        T.due("11 minus, then plus", fade("10-3+2", 0, 0, 0), 9);
+        T.due("11 plus, then minus", fade("10+3-2+1", 0, 0, 0), 12);
+        T.due("11 times, then by", fade("7*3/2", 0, 0, 0), 10);
+        T.due("11 by, then by", fade("100/5/2", 0, 0, 0), 10);
+        T.due("11 below 0 times below 0", fade("(0-3)*(0-4)", 0, 0, 0), 12);
+        T.due("11 far below 0", fade("(0-9999)*9999*9999*9999", 0, 0, 0), Long.MIN_VALUE);
+        T.due("11 times far below 0", fade("9999*9999*9999*(0-9999)", 0, 0, 0), Long.MIN_VALUE);
         T.due("11 by 0", fade("1/far", 1, 0, 0), Long.MIN_VALUE);
         T.due("11 both sides", fade("1 or 1/0", 0, 0, 0), Long.MIN_VALUE);
         T.due("11 the limit", fade("9999+1*1", 0, 0, 0), 10000);
@@ -429,6 +445,8 @@ public final class OwnedSilenceTest {
         T.due("16 not so many", x.span(4, 0), -2);
         T.due("16 below", x.span(-1, 0), -1);
         T.due("16 no such what", x.span(0, 4), -1);
+        T.due("16 what below", x.span(0, -1), -1);
+        T.due("16 no such what of one beyond", x.span(9, 4), -1);
         T.due("17 pieces", x.pieces(), 2);
         int[][] pieces = {{10, 1, 2, 10, 10, 1}, {86, 2, 3, 86, 0, 3}};
         for (int k = 0; k < 2; k++) {
@@ -439,6 +457,9 @@ public final class OwnedSilenceTest {
         T.due("18 not so many", x.piece(2, 0), -2);
         T.due("18 below", x.piece(-1, 0), -1);
         T.due("18 no such what", x.piece(0, 6), -1);
+        T.due("18 what below", x.piece(0, -1), -1);
+        T.due("18 no such what of one beyond", x.piece(9, 6), -1);
+        T.due("19 of the first one", x.share(0, 1), 10);
         T.due("19 x", x.share(1, 0), 28);
         T.due("19 y", x.share(1, 1), 4);
         T.due("19 not so many", x.share(2, 0), -2);
@@ -485,6 +506,7 @@ public final class OwnedSilenceTest {
         OwnedSilence third = Told.of("place a;owner x 9;owner y 9;claim x a 0 15;claim y a 16 47;law worth 10/(3-who)-who*4+3;");
         // The piece 10-8+3=5; x alone 5-4+3=4 of 5 times 16 by 48.
         T.due("21 as fractions", third.leaves(0), 1);
+        fourOwners();
         OwnedSilence none = Told.of("place a;owner x 9;");
         T.due("20 nothing in it", none.part(0, 0), 0);
         T.due("21 no owners", none.leaves(0), 0);
@@ -493,6 +515,31 @@ public final class OwnedSilenceTest {
         T.due("20 below", none.part(-1, 0), -1);
         T.due("21 not so many", none.leaves(1), -2);
         T.due("21 below", none.leaves(-1), -1);
+    }
+
+    /** Of two places; what is more depends on how many have come. */
+    private static void fourOwners() {
+        OwnedSilence x = Told.of("place a;place b;link a b 1;owner w 0;owner x 0;owner y 0;owner z 0;claim w a 0 0;"
+                + "claim x a 1 1;claim x b 1 1;claim y b 2 2;claim z b 3 3;law worth who*who*who+many*100+loud+far;");
+        // Worth by how many: w alone 101, x alone 201, y alone 101; with w or x and one at b 200 more.
+        int[] set = new int[16];
+        for (int bits = 1; bits < 16; bits++) {
+            int who = Integer.bitCount(bits);
+            int many = ((bits & 3) != 0 ? 1 : 0) + ((bits & 14) != 0 ? 1 : 0);
+            set[bits] = who * who * who + many * 100;
+        }
+        int[] orders = {6, 2, 2, 6};
+        for (int owner = 0; owner < 4; owner++) {
+            int sum = 0;
+            for (int bits = 0; bits < 16; bits++) {
+                if ((bits >> owner & 1) == 0) {
+                    sum += orders[Integer.bitCount(bits)] * (set[bits | 1 << owner] - set[bits]);
+                }
+            }
+            T.due("20 of four " + owner, x.part(0, owner), sum);
+        }
+        // The piece 264, of 5 minutes: w alone has 101 and would have 52.
+        T.due("21 of four", x.leaves(0), 1);
     }
 
     private static void changes() {
@@ -522,6 +569,11 @@ public final class OwnedSilenceTest {
         T.due("24 none again", x.wall(0, false), true);
         T.due("24 no such", x.wall(2, true), false);
         T.due("24 below", x.wall(-1, true), false);
+        OwnedSilence rich = Told.of("place a;owner x 0;owner y 999;claim x a 0 0;");
+        T.due("25 999", rich.sell(0, 1, 999), true);
+        rich.sell(0, 0, 999);
+        rich.sell(0, 1, 0);
+        T.due("25 more coin than 999 may be had", rich.count(14), 999);
         T.due("25 theirs", x.sell(0, 1, 0), false);
         T.due("25 too dear", x.sell(0, 0, 21), false);
         T.due("25 sell", x.sell(0, 0, 20), true);
@@ -600,6 +652,17 @@ public final class OwnedSilenceTest {
         wall.wall(0, false);
         wall.sell(0, 0, 0);
         T.due("27 so does the claim", wall.plan(), 0);
+        T.due("28 at once", wall.planned(0, 0), 0);
+        T.due("28 from 0", wall.planned(0, 1), 0);
+        // Four of x, which can't be at once; minute 9 is shut at b.
+        OwnedSilence four = Told.of(town + "claim y b 9 9;task x a 3 1;task x a 4 1;task x b 2 1;task x b 5 1;");
+        // 0 to 2, 3 to 7 at b, 8 to 11 at a, 12 to 13: no order ahead of it goes without a gap.
+        T.due("27 four", four.plan(), 13);
+        T.due("28 four, first", four.planned(0, 0), 0);
+        T.due("28 four, second", four.planned(1, 0), 3);
+        T.due("28 four, third", four.planned(2, 0), 1);
+        T.due("28 four, last", four.planned(3, 0), 2);
+        T.due("28 four, last at", four.planned(3, 1), 12);
     }
 
     private static void walls() {
@@ -621,6 +684,10 @@ public final class OwnedSilenceTest {
         OwnedSilence part = Told.of(ring + "7;");
         part.wall(1, true);
         T.due("29 as well", part.walls(0, 3), 4);
+        OwnedSilence once = Told.of("place a;place b;link a b 1;owner x 1;noise a x 0 9 9;");
+        once.wall(0, true);
+        T.due("29 no second wall on a link", once.walls(0, 1), -2);
+        T.due("29 no way", Told.of("place a;place b;owner x 1;noise a x 0 9 9;").walls(0, 1), 0);
         T.due("29 by the minute", Told.of(ring + "1;law fade minute-far-2;").walls(0, 3), 5);
     }
 
@@ -717,6 +784,20 @@ public final class OwnedSilenceTest {
         T.due("34 stopped", none.thieves(), 1920 - 20 - 16);
         none.note(0, 30, true);
         T.due("34 both", none.thieves(), 0);
+        OwnedSilence two = Told.of("place a;place b;place c;link a b 4;link b c 4;owner x 9;");
+        two.note(0, 0, true);
+        two.note(1, 0, true);
+        two.note(2, 0, false);
+        // Heard at a and b, not at c: at a 5 to 8; at b it would be heard at c, too.
+        T.due("34 two of three", two.thieves(), 4);
+        T.due("35 from a", two.thief(0, 0), 0);
+        T.due("35 at minute 0", two.thief(3, 1), 0);
+        T.due("35 up to 8", two.thief(3, 2), 8);
+        two.strike(0);
+        two.note(0, 0, false);
+        // Now at b 1 to 4 alone.
+        T.due("34 none but b", two.thieves(), 4);
+        T.due("35 from b", two.thief(0, 0), 1);
         T.due("34 no places", new OwnedSilence().thieves(), 0);
     }
 
@@ -740,6 +821,13 @@ public final class OwnedSilenceTest {
         T.due("36 one left alone", Told.of("place a;owner x 9;claim x a 0 20;").left(0, 1), 0);
         OwnedSilence joined = Told.of("place a;owner x 9;owner y 9;heir x y;claim x a 0 4;claim y a 5 9;");
         T.due("36 rows of one owner join", joined.left(0, 0), 10);
+        String third = "place a;owner x 9;owner y 9;owner z 9;heir x y;heir y z;";
+        T.due("36 even halves", Told.of(third + "claim x a 11 20;").left(0, 1), 5);
+        T.due("36 odd halves", Told.of(third + "claim x a 11 21;").left(0, 1), 6);
+        T.due("36 of one minute all to the second", Told.of(third + "claim x a 11 11;claim z a 12 14;").left(0, 1), 4);
+        T.due("36 the first half beside", Told.of(third + "claim x a 11 20;claim y a 6 10;").left(0, 1), 10);
+        OwnedSilence eight = Told.of(third + times("claim x a 0 0;", 7) + "claim x a 20 39;");
+        T.due("36 eight cut in halves", eight.left(0, 1), 10);
         OwnedSilence under = Told.of("place a;owner x 9;owner y 9;claim x a 0 9;claim y a 5 20;");
         T.due("36 the next claim there", under.left(0, 2), 16);
         OwnedSilence noise = Told.of("place a;owner x 9;noise a x 10 10 1;claim x a 0 9;");
@@ -758,6 +846,12 @@ public final class OwnedSilenceTest {
         // At no cost more is better: only both at 9, or one at 9 who wins it all.
         T.due("37 at no cost", x.rests(10, 0, 0), 1);
         T.due("38 at no cost", x.rest(10, 0, 0, 0), 99);
+        // One waits for free, the other at a cost above all: both 0 is none, since one would say 1.
+        T.due("37 one for free", x.rests(4, 0, 99), 9);
+        T.due("38 one for free", x.rest(4, 0, 99, 0), 10);
+        T.due("37 dear for both", x.rests(99, 99, 99), 18);
+        T.due("38 dear for both", x.rest(99, 99, 99, 0), 1);
+        T.due("38 dear for both, behind 09", x.rest(99, 99, 99, 9), 10);
         // Half of 1 is 0, cut: at 9 the other one has nothing by any number.
         T.due("37 half of 1", x.rests(1, 0, 0), 19);
         for (int bad : new int[] {-1, 100}) {
@@ -784,6 +878,10 @@ public final class OwnedSilenceTest {
         T.due("39 the greatest seed", x.year(Integer.MAX_VALUE, 20), days(Integer.MAX_VALUE, 20));
         T.due("39 no owners", Told.of("place a;").year(7, 20), 20 * 48);
         T.due("39 no places", Told.of("owner x 1;").year(7, 20), 0);
+        T.due("39 one place, one owner", Told.of("place a;owner x 1;").year(7, 20), 20 * 48 - 4 * quarrels(7, 20));
+        for (int seed = 0; seed < 40; seed++) {
+            T.due("39 from " + seed, x.year(seed, 9), days(seed, 9));
+        }
         T.due("39 nothing changed", x.count(15), 124);
     }
 
@@ -816,6 +914,21 @@ public final class OwnedSilenceTest {
         return sum;
     }
 
+    private static int quarrels(long seed, int n) {
+        long number = seed;
+        int many = 0;
+        for (int day = 0; day < n; day++) {
+            number = (number * 1103515245L + 12345L) & 0x7fffffffL;
+            if (number / 65536 % 3 == 1) {
+                many++;
+                for (int i = 0; i < 3; i++) {
+                    number = (number * 1103515245L + 12345L) & 0x7fffffffL;
+                }
+            }
+        }
+        return many;
+    }
+
     private static void tried() {
         OwnedSilence x = Told.of(STREET + "noise b y 40 40 6;");
         x.wall(0, true);
@@ -833,6 +946,7 @@ public final class OwnedSilenceTest {
         for (int[] one : bad) {
             T.due("40 tried " + one[0] + " " + one[1], x.tried(one[0], one[1]), -1);
         }
+        T.due("40 loud 8", Told.of("place a;place b;place c;link a b 7;link a c 8;owner x 1;").tried(5, 0), 48);
         x.stop(1);
         T.due("40 a stopped one", x.tried(1, 1), x.count(15));
         for (int i = 2; i < 12; i++) {
@@ -858,6 +972,7 @@ public final class OwnedSilenceTest {
         T.due("41 the seller's coin", x.owner(1, 0), 5);
         T.due("41 the first wall", x.undo(), 2);
         T.due("41 is gone", x.far(0, 1), 2);
+        T.due("41 so b hears it", x.heard(1, 12), 0);
         T.due("41 the stop", x.undo(), 1);
         T.due("41 goes on", x.noise(1, 5), 0);
         T.due("41 what was made", x.undo(), 0);
@@ -874,6 +989,12 @@ public final class OwnedSilenceTest {
             x.wall(0, i % 2 != 0);
         }
         T.due("41 twenty at most", x.count(11), 20);
+        x.wall(0, true);
+        x.make(0, 0, 0, 0, 1);
+        T.due("41 still twenty", x.count(11), 20);
+        T.due("41 the noise goes first", x.undo(), 19);
+        T.due("41 it is gone", x.count(3), 1);
+        x.wall(1, true);
         for (int i = 19; i >= 0; i--) {
             T.due("41 left", x.undo(), i);
         }
