@@ -399,13 +399,14 @@ public final class OwnedSilence {
         for (int state = 0; state < barkedAt.length; state++) {
             barkedAt[state] = NONE;
         }
+        Air air = freshAir();
         int barking = dogs;
         int most = 0;
         int minute = 0;
         while (minute <= barkedAt.length && barking != 0 && barkedAt[barking] == NONE) {
             barkedAt[barking] = minute;
             most = Math.max(most, Integer.bitCount(barking));
-            barking = answering(barking);
+            barking = answering(air, barking);
             minute++;
         }
         if (what == 2) {
@@ -418,20 +419,20 @@ public final class OwnedSilence {
     }
 
     /** The dogs that bark a minute after those of barking do. */
-    private int answering(int barking) {
+    private int answering(Air air, int barking) {
         int next = 0;
         for (int place = 0; place < now.places.size; place++) {
             int ear = now.places.at(place, EAR);
-            if (ear > 0 && (barking >> place & 1) == 0 && hearsAny(place, ear, barking)) {
+            if (ear > 0 && (barking >> place & 1) == 0 && hearsAny(air, place, ear, barking)) {
                 next |= 1 << place;
             }
         }
         return next;
     }
 
-    private boolean hearsAny(int place, int ear, int barking) {
+    private boolean hearsAny(Air air, int place, int ear, int barking) {
         for (int other = 0; other < now.places.size; other++) {
-            int way = freshAir().way(other, place);
+            int way = air.way(other, place);
             if ((barking >> other & 1) == 1 && way != MISSING && way <= ear) {
                 return true;
             }

@@ -416,6 +416,47 @@ public final class ModelTest {
         }
     }
 
+    /** All that can be asked without an end of its own. */
+    private void sweep() {
+        run.append("sweep\n");
+        for (int i = -1; i <= 16; i++) {
+            alike("count " + i, x.count(i), m.count(i));
+        }
+        for (int i = 0; i < 12; i++) {
+            for (int what = 0; what < 6; what++) {
+                alike("noise " + i + " " + what, x.noise(i, what), m.noise(i, what));
+                alike("claim " + i + " " + what, x.claim(i, what), m.claim(i, what));
+                alike("link " + i + " " + what, x.link(i, what), m.link(i, what));
+            }
+        }
+        for (int o = 0; o < 4; o++) {
+            for (int what = 0; what < 5; what++) {
+                alike("owner " + o + " " + what, owner(x, o, what), owner(m, o, what));
+            }
+            for (int law = 0; law < 3; law++) {
+                alike("left " + o + " " + law, x.left(o, law), m.left(o, law));
+            }
+        }
+        for (int p = 0; p < 6; p++) {
+            alike("hush " + p, x.hush(p), m.hush(p));
+            for (int i = 0; i < 48; i++) {
+                alike("whose " + p + " " + i, x.whose(p, i), m.whose(p, i));
+            }
+        }
+        alike("plan", x.plan(), m.plan());
+        alike("thieves", x.thieves(), m.thieves());
+        int pieces = Math.min(4, m.pieces());
+        for (int k = 0; k <= pieces; k++) {
+            alike("leaves " + k, x.leaves(k), m.leaves(k));
+            for (int what = 0; what < 6; what++) {
+                alike("piece " + k + " " + what, x.piece(k, what), m.piece(k, what));
+            }
+            for (int o = 0; o < m.now.owners.size(); o++) {
+                alike("part " + k + " " + o, x.part(k, o), m.part(k, o));
+            }
+        }
+    }
+
     private void goOn(int calls) {
         for (int i = 0; i < calls; i++) {
             call();
@@ -435,6 +476,7 @@ public final class ModelTest {
                 }
                 test.tell(valid);
                 test.goOn(120);
+                test.sweep();
             }
         }
         told.end();

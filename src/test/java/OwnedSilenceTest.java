@@ -83,6 +83,11 @@ public final class OwnedSilenceTest {
         T.due("3 all known", x.count(10), 1);
         T.due("3 nothing to undo", x.undo(), -1);
         T.due("3 no image", x.back(), -1);
+        T.due("3 another one's silence", x.count(15), 124);
+        T.due("3 and pieces", x.pieces(), 1);
+        Told.tell(x, "place a;place b;");
+        T.due("3 not that of before", x.count(15), 96);
+        T.due("3 nor its pieces", x.pieces(), 2);
         T.due("3 wall is 5 and fine 1 again", Told.tell(x, "wall 9;fine 9;"), 2);
         Told.tell(x, STREET);
         x.wall(0, true);
@@ -374,6 +379,9 @@ public final class OwnedSilenceTest {
         T.due("11 below 0 times below 0", fade("(0-3)*(0-4)", 0, 0, 0), 12);
         T.due("11 far below 0", fade("(0-9999)*9999*9999*9999", 0, 0, 0), Long.MIN_VALUE);
         T.due("11 times far below 0", fade("9999*9999*9999*(0-9999)", 0, 0, 0), Long.MIN_VALUE);
+        T.due("11 2 to the 64 is no 0", fade("8192*8192*64*(8192*8192*64)", 0, 0, 0), Long.MIN_VALUE);
+        T.due("11 63 times not", fade(times("not (", 8) + times("not ", 55) + "1" + times(")", 8), 0, 0, 0), 0);
+        T.due("11 62 times not", fade(times("not (", 8) + times("not ", 54) + "1" + times(")", 8), 0, 0, 0), 1);
         T.due("11 by 0", fade("1/far", 1, 0, 0), Long.MIN_VALUE);
         T.due("11 both sides", fade("1 or 1/0", 0, 0, 0), Long.MIN_VALUE);
         T.due("11 the limit", fade("9999+1*1", 0, 0, 0), 10000);
@@ -587,6 +595,9 @@ public final class OwnedSilenceTest {
     }
 
     private static void go() {
+        OwnedSilence one = Told.of(STREET);
+        one.go(13);
+        T.due("26 a fine of 1 if none is told", one.owner(0, 0), 19);
         OwnedSilence x = Told.of(STREET + "fine 9;");
         T.due("26 none", x.go(0), 0);
         T.due("26 below", x.go(-1), -1);
@@ -688,6 +699,9 @@ public final class OwnedSilenceTest {
         once.wall(0, true);
         T.due("29 no second wall on a link", once.walls(0, 1), -2);
         T.due("29 no way", Told.of("place a;place b;owner x 1;noise a x 0 9 9;").walls(0, 1), 0);
+        String all = places(6) + "link a b 1;link a c 1;link a d 1;link a e 1;link b f 1;link c f 1;link d f 1;link e f 1;"
+                + "link a f 9;owner x 1;noise a x 0 0 1;wall 9;law fade far<18;";
+        T.due("29 all nine", Told.of(all).walls(0, 5), 511);
         T.due("29 by the minute", Told.of(ring + "1;law fade minute-far-2;").walls(0, 3), 5);
     }
 
@@ -1002,6 +1016,28 @@ public final class OwnedSilenceTest {
         T.due("41 no more of them", x.undo(), -1);
     }
 
+    /** The oldest of 21 changes can't be undone, all others can, each its own way. */
+    private static void undoOldest() {
+        OwnedSilence x = Told.of(STREET);
+        for (int i = 1; i < 12; i++) {
+            x.make(i % 3, i % 2, i, i + 1, i);
+        }
+        x.sell(1, 1, 4);
+        x.wall(1, true);
+        for (int i = 0; i < 8; i++) {
+            x.stop(i);
+        }
+        T.due("41 twenty of 21", x.count(11), 20);
+        for (int i = 19; i >= 0; i--) {
+            T.due("41 of 21 left", x.undo(), i);
+        }
+        T.due("41 the first one made stays", x.count(3), 2);
+        T.due("41 it isn't stopped", x.noise(1, 5), 0);
+        T.due("41 no wall", x.count(12), 0);
+        T.due("41 not sold", x.claim(1, 0), 0);
+        T.due("41 not paid", x.owner(1, 0), 5);
+    }
+
     private static void images() {
         OwnedSilence x = Told.of(STREET);
         T.due("43 none", x.back(), -1);
@@ -1112,6 +1148,7 @@ public final class OwnedSilenceTest {
         year();
         tried();
         undo();
+        undoOldest();
         images();
         count();
         wild();
