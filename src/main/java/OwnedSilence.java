@@ -1942,7 +1942,7 @@ public final class OwnedSilence {
             int many = 0;
             reached[many++] = start;
             spans.put(start, PIECE, piece);
-            for (int i = 0; i < many; i++) {
+            for (int i = 0; i < many && i < MOST; i++) {
                 for (int span = start + 1; span < spans.size && many < MOST; span++) {
                     if (spans.at(span, PIECE) == NONE && touch(reached[i], span)) {
                         spans.put(span, PIECE, piece);
