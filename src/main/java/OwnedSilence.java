@@ -27,6 +27,8 @@ public final class OwnedSilence {
     private static final int TAPE = 700;
     /** A way has a link less than places, each of length 9 with a wall of 9. */
     private static final int FARTHEST = 5 * 18;
+    /** Each place has a dog that barks, or none does. */
+    private static final int STATES = 1 << 6;
 
     // The columns of each kind of row.
     private static final int NAME = 0;
@@ -70,7 +72,7 @@ public final class OwnedSilence {
     private final Planner planner = new Planner();
     private final Notes notes = new Notes();
     private final Rows log = new Rows(5, 20);
-    private final int[] barkedAt = new int[1 << PLACES];
+    private final int[] barkedAt = new int[STATES];
     /** Of each way's length whether the noise is heard so far: see trialReaches. */
     private final int[] heardFrom = new int[FARTHEST + 1];
 
@@ -396,14 +398,14 @@ public final class OwnedSilence {
         if (dogs < 0 || what < 0 || what > 2 || (dogs & ~now.dogs()) != 0) {
             return NONE;
         }
-        for (int state = 0; state < barkedAt.length; state++) {
+        for (int state = 0; state < STATES; state++) {
             barkedAt[state] = NONE;
         }
         Air air = freshAir();
         int barking = dogs;
         int most = 0;
         int minute = 0;
-        while (minute <= barkedAt.length && barking != 0 && barkedAt[barking] == NONE) {
+        while (minute <= STATES && isState(barking) && barkedAt[barking] == NONE) {
             barkedAt[barking] = minute;
             most = Math.max(most, Integer.bitCount(barking));
             barking = answering(air, barking);
@@ -412,10 +414,15 @@ public final class OwnedSilence {
         if (what == 2) {
             return most;
         }
-        if (what == 1) {
-            return barking == 0 ? 0 : minute - barkedAt[barking];
+        if (!isState(barking)) {
+            return what == 0 ? minute : 0;
         }
-        return barking == 0 ? minute : MISSING;
+        return what == 0 ? MISSING : minute - barkedAt[barking];
+    }
+
+    /** Whether any dogs bark, and only such as there may be. */
+    private static boolean isState(int barking) {
+        return barking > 0 && barking < STATES;
     }
 
     /** The dogs that bark a minute after those of barking do. */
@@ -1458,19 +1465,17 @@ public final class OwnedSilence {
             return takeEnd();
         }
 
-        private boolean takeTimes() {
-            return takeNumber(FROM, 0, DAY - 1) && takeNumber(TO, cells[FROM], DAY - 1);
-        }
-
         private boolean readNoise() {
             return hasRoom(world.noises, NOISES_TOLD) && takeTold(world.places, SITE)
-                    && takeTold(world.owners, MAKER) && takeTimes() && takeNumber(LOUD, 1, LOUDEST)
+                    && takeTold(world.owners, MAKER) && takeNumber(FROM, 0, DAY - 1)
+                    && takeNumber(TO, cells[FROM], DAY - 1) && takeNumber(LOUD, 1, LOUDEST)
                     && takeEnd() && addRow(world.noises);
         }
 
         private boolean readHolding(Rows rows, int most) {
             return hasRoom(rows, most) && takeTold(world.owners, HOLDER) && takeTold(world.places, GROUND)
-                    && takeTimes() && takeEnd() && addRow(rows);
+                    && takeNumber(FROM, 0, DAY - 1) && takeNumber(TO, cells[FROM], DAY - 1)
+                    && takeEnd() && addRow(rows);
         }
 
         private boolean readTask() {
@@ -1783,7 +1788,7 @@ public final class OwnedSilence {
         }
 
         boolean isHeard(int noise, int place, int minute) {
-            if (noise < 0 || noise > NOISES || !isSpot(place, minute)) {
+            if (noise < 0 || noise > NOISES || place < 0 || place >= PLACES || minute < 0 || minute >= DAY) {
                 return false;
             }
             return (heardBits[noise * PLACES + place] >> minute & 1) == 1;

@@ -1,14 +1,20 @@
+import java.io.PrintWriter;
+import java.io.StringWriter;
 import java.lang.reflect.Constructor;
 import java.lang.reflect.Field;
 import java.lang.reflect.Method;
 import java.lang.reflect.Modifier;
 import java.nio.file.Files;
 import java.nio.file.Path;
+import java.util.ArrayList;
 import java.util.HashMap;
 import java.util.HashSet;
 import java.util.List;
 import java.util.Map;
 import java.util.Set;
+import java.util.regex.Matcher;
+import java.util.regex.Pattern;
+import java.util.spi.ToolProvider;
 
 /** The class has the document's face and no more, and keeps to those rules of LANGUAGE.md that a text shows. */
 public final class FaceTest {
@@ -37,6 +43,8 @@ public final class FaceTest {
         TOLD.due("public and final", it.getModifiers(), Modifier.PUBLIC | Modifier.FINAL);
         for (Method method : it.getDeclaredMethods()) {
             boolean isPublic = Modifier.isPublic(method.getModifiers());
+            TOLD.due("private by another name than a public one: " + method,
+                    isPublic || method.isSynthetic() || !FACE.contains(" " + method.getName() + "("), true);
             TOLD.due("public or private: " + method, isPublic || Modifier.isPrivate(method.getModifiers())
                     || method.isSynthetic(), true);
             if (isPublic) {
@@ -104,10 +112,76 @@ public final class FaceTest {
         }
     }
 
+    // rule 12: rows are made in constructors and used again, so a call makes nothing but what it throws
+    private static void made() throws Exception {
+        for (String line : Files.readAllLines(Path.of("src/main/java/OwnedSilence.java"))) {
+            if (line.contains("new ") && !line.trim().startsWith("*")) {
+                boolean once = line.matches("    (    )?private (final )?\\w+(\\[])? \\w+ = new .*;");
+                TOLD.due("made once: " + line.trim(), once || line.contains("throw new ") || line.contains("this.cells = "), true);
+            }
+        }
+    }
+
+    // rule 11: "calls that are no recursion go at most eight deep"; and there is no recursion at all
+    private static void depth() {
+        ToolProvider javap = ToolProvider.findFirst("javap").orElse(null);
+        TOLD.due("javap is there", javap != null, true);
+        StringWriter text = new StringWriter();
+        List<String> args = new ArrayList<>(List.of("-p", "-c", "-cp", System.getProperty("java.class.path"), "OwnedSilence"));
+        for (Class<?> one : OwnedSilence.class.getDeclaredClasses()) {
+            args.add(one.getName());
+        }
+        TOLD.due("javap ends well", javap.run(new PrintWriter(text), new PrintWriter(text), args.toArray(new String[0])), 0);
+        Map<String, Set<String>> calls = callsOf(text.toString());
+        TOLD.due("methods are found", calls.size() > 100, true);
+        for (String method : calls.keySet()) {
+            TOLD.due("at most eight deep: " + method, depthOf(method, calls, 0) <= 8, true);
+        }
+    }
+
+    private static Map<String, Set<String>> callsOf(String text) {
+        Map<String, Set<String>> calls = new HashMap<>();
+        Pattern begins = Pattern.compile("^(?:[\\w ]+ )?class (\\S+) .*");
+        Pattern method = Pattern.compile("^  [^(]*?([\\w$.]+)\\([^)]*\\).*;$");
+        Pattern call = Pattern.compile(".*// Method (?:([\\w$/]+)\\.)?\"?([\\w<>]+)\"?:.*");
+        String owner = "";
+        Set<String> asked = new HashSet<>();
+        for (String line : text.split("\\R")) {
+            Matcher m = begins.matcher(line);
+            if (m.matches()) {
+                owner = m.group(1);
+            }
+            m = method.matcher(line);
+            if (m.matches()) {
+                String name = m.group(1).equals(owner) ? "<init>" : m.group(1);
+                asked = calls.computeIfAbsent(owner + "." + name, k -> new HashSet<>());
+            }
+            m = call.matcher(line);
+            if (m.matches()) {
+                asked.add((m.group(1) == null ? owner : m.group(1)) + "." + m.group(2));
+            }
+        }
+        return calls;
+    }
+
+    /** How many calls stand open at once below this one, it too; what isn't of this file counts nothing. */
+    private static int depthOf(String method, Map<String, Set<String>> calls, int above) {
+        if (!calls.containsKey(method) || above > 20) {
+            return above > 20 ? 1000 : 0;
+        }
+        int deepest = 0;
+        for (String next : calls.get(method)) {
+            deepest = Math.max(deepest, depthOf(next, calls, above + 1));
+        }
+        return deepest + 1;
+    }
+
     public static void main(String[] args) throws Exception {
         face();
         classes();
         source();
+        made();
+        depth();
         TOLD.end();
     }
 }

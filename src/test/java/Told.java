@@ -31,6 +31,11 @@ final class Told {
         return taped;
     }
 
+    /** Numbers that are none of 0 .. most, the nearest ones first. */
+    static int[] besides(int most) {
+        return new int[] {-1, most + 1, -2, most + 2, Integer.MIN_VALUE, Integer.MAX_VALUE};
+    }
+
     static int letters(String word) {
         int bits = 0;
         for (int i = 0; i < 6; i++) {
