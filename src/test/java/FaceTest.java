@@ -1,5 +1,6 @@
 import java.io.PrintWriter;
 import java.io.StringWriter;
+import java.lang.reflect.Array;
 import java.lang.reflect.Constructor;
 import java.lang.reflect.Field;
 import java.lang.reflect.Method;
@@ -9,6 +10,7 @@ import java.nio.file.Path;
 import java.util.ArrayList;
 import java.util.HashMap;
 import java.util.HashSet;
+import java.util.IdentityHashMap;
 import java.util.List;
 import java.util.Map;
 import java.util.Set;
@@ -122,8 +124,8 @@ public final class FaceTest {
         }
     }
 
-    // rule 11: "calls that are no recursion go at most eight deep"; and there is no recursion at all
-    private static void depth() {
+    /** What javap tells of the compiled class and the classes inside it. */
+    private static String compiled() {
         ToolProvider javap = ToolProvider.findFirst("javap").orElse(null);
         TOLD.due("javap is there", javap != null, true);
         StringWriter text = new StringWriter();
@@ -132,11 +134,78 @@ public final class FaceTest {
             args.add(one.getName());
         }
         TOLD.due("javap ends well", javap.run(new PrintWriter(text), new PrintWriter(text), args.toArray(new String[0])), 0);
-        Map<String, Set<String>> calls = callsOf(text.toString());
+        return text.toString();
+    }
+
+    // rule 11: "calls that are no recursion go at most eight deep"; and there is no recursion at all
+    private static void depth(String compiled) {
+        Map<String, Set<String>> calls = callsOf(compiled);
         TOLD.due("methods are found", calls.size() > 100, true);
         for (String method : calls.keySet()) {
             TOLD.due("at most eight deep: " + method, depthOf(method, calls, 0) <= 8, true);
         }
+    }
+
+    // rule 4: "The library: only what stands here", of which the class needs but this
+    private static void library(String compiled) {
+        Set<String> allowed = Set.of("String.length", "String.charAt", "String.indexOf", "System.arraycopy",
+                "Integer.bitCount", "Long.bitCount", "Math.min", "Math.max");
+        Matcher m = Pattern.compile("// (?:Interface)?Method java/\\w+/([\\w.]+|\\w+\\.\"<init>\"):").matcher(compiled);
+        int many = 0;
+        while (m.find()) {
+            String asked = m.group(1);
+            boolean made = Set.of("Object.\"<init>\"", "IndexOutOfBoundsException.\"<init>\"",
+                    "NoSuchElementException.\"<init>\"").contains(asked);
+            TOLD.due("of the library: " + asked, made || allowed.contains(asked), true);
+            many++;
+        }
+        TOLD.due("the library is asked as often as javap tells", many, compiled.split("Method java/", -1).length - 1);
+        TOLD.due("no call is put together while it runs", compiled.contains("InvokeDynamic"), false);
+    }
+
+    // "All calls of one run live in ONE room": what an object is made of is little, and no call adds to it
+    private static void room() throws Exception {
+        OwnedSilence x = Told.of("place a;place b;link a b 2;owner x 9;owner y 9;heir x y;noise a x 0 9 3;"
+                + "claim y b 5 20;task x a 3 4;dog a 9;dog b 9;law fade loud-far*minute/3;law worth long*many;");
+        long before = sizeOf(x, new IdentityHashMap<>());
+        for (int i = 0; i < 20; i++) {
+            x.make(0, 1, i, i + 3, 9);
+            x.wall(0, i % 2 == 0);
+            x.sell(0, i % 2, 1);
+            x.note(0, i, true);
+            x.tried(0, 0);
+            x.year(i, 20);
+            x.walls(0, 1);
+            x.part(0, 1);
+            x.plan();
+            x.left(0, 1);
+            x.bark(3, 0);
+            x.thieves();
+            x.rests(9, 1, 2);
+            x.keep();
+            x.back();
+            Told.tell(x, "place a;owner");
+        }
+        TOLD.due("what an object is made of", before > 1000 && before < 12000, true);
+        TOLD.due("what it is made of behind many calls", sizeOf(x, new IdentityHashMap<>()), before);
+    }
+
+    /** How many objects, fields and elements can be reached from one. */
+    private static long sizeOf(Object one, Map<Object, Object> seen) throws Exception {
+        if (one == null || seen.put(one, one) != null) {
+            return 0;
+        }
+        if (one.getClass().isArray()) {
+            return 1 + Array.getLength(one);
+        }
+        long size = 1;
+        for (Field field : one.getClass().getDeclaredFields()) {
+            if (!Modifier.isStatic(field.getModifiers())) {
+                field.setAccessible(true);
+                size += 1 + (field.getType().isPrimitive() ? 0 : sizeOf(field.get(one), seen));
+            }
+        }
+        return size;
     }
 
     private static Map<String, Set<String>> callsOf(String text) {
@@ -181,7 +250,10 @@ public final class FaceTest {
         classes();
         source();
         made();
-        depth();
+        String compiled = compiled();
+        depth(compiled);
+        library(compiled);
+        room();
         TOLD.end();
     }
 }
